@@ -22,7 +22,6 @@ public final class NumberForge {
     private static final int NOT_ABOVE = 2;
     private static final int NOT_BELOW = 3;
     private static final int NEAREST_GREATER = 4;
-    private static final int NEAREST_EVEN = 5;
 
     private static final int OPERATIONS = 6;
     private static final int STYLES = 5;
@@ -351,8 +350,11 @@ public final class NumberForge {
     /** The nearest whole number, for x from 0 to below 2^52, where x less its whole part is exact. */
     private static long nearestEven(double x) {
         long whole = (long) x;
-        double rest = x - (double) whole;
-        return rest > 0.5 || rest == 0.5 && whole % 2 != 0 ? whole + 1 : whole;
+        return isHalfEvenUp(whole, x - (double) whole) ? whole + 1 : whole;
+    }
+
+    private static boolean isHalfEvenUp(long whole, double rest) {
+        return rest > 0.5 || rest == 0.5 && whole % 2 != 0;
     }
 
     /** a % b by binary long division, each step of which is exact, for finite a and b above 0. */
@@ -574,7 +576,7 @@ public final class NumberForge {
             case NEAREST_GREATER:
                 return rest > 0.5 || rest == 0.5 && !negative;
             default:
-                return rest > 0.5 || rest == 0.5 && whole % 2 != 0;
+                return isHalfEvenUp(whole, rest);
         }
     }
 

@@ -303,7 +303,7 @@ public final class PromiseTest {
 
     private static void readRefuses() {
         reads("7", INTEGER, "1 7/0");
-        String[] unwritten = {"", "   ", "+", "-", ".", "-.", "--1", "+-1", "1 2", "- 1", "1e2", "1.2.3", "x", "1x", "INF"};
+        String[] unwritten = {"", "   ", "+", "-", ".", "-.", "--1", "+-1", "1 2", "- 1", "1e2", "1.2.3", "..5", "..", "x", "1x", "INF"};
         for (String s : unwritten) {
             reads(s, DECIMAL, ARGUMENT);
         }
@@ -316,6 +316,8 @@ public final class PromiseTest {
         reads("2147483648", INT, ARGUMENT);
         reads("-2147483649", INT, ARGUMENT);
         reads("32768", 3, ARGUMENT);
+        reads("-32769", 3, ARGUMENT);
+        reads("128", BYTE, ARGUMENT);
         reads("-129", BYTE, ARGUMENT);
         reads("256", 5, ARGUMENT);
         reads("-1", 5, ARGUMENT);
@@ -388,6 +390,9 @@ public final class PromiseTest {
         decimals("0.001", "0.0015", 2, "0 2/6");
         decimals("0.001", "-0.0025", 2, "0 -2/6");
         decimals("0.001", "0.00251", 2, "0 3/6");
+        decimals("99.999999", "99.999999", 2, "0 99999998/4");
+        decimals("1234.567891", "-2345.678912", 2, "0 -2895899867351/6");
+        decimals("12.345679", "98765.432198", 2, "0 1219326322213/6");
         decimals("1", "3", 3, "0 333333/6");
         decimals("2", "3", 3, "0 666667/6");
         decimals("0.000001", "2", 3, "0 0/0");
