@@ -1,27 +1,5 @@
 /** Examples for each promise of the document: ordinary inputs, the edges that it names, and wrong inputs. */
-public final class PromiseTest {
-    private static final String INDEX = "IndexOutOfBoundsException";
-    private static final String STATE = "IllegalStateException";
-    private static final String ARGUMENT = "IllegalArgumentException";
-    private static final String ARITHMETIC = "ArithmeticException";
-    private static final String LIMIT = "UnsupportedOperationException";
-
-    private static final int DECIMAL = 0;
-    private static final int INTEGER = 1;
-    private static final int INT = 2;
-    private static final int BYTE = 4;
-    private static final int FLOAT = 8;
-    private static final int DOUBLE = 9;
-    private static final double INFINITE = Double.POSITIVE_INFINITY;
-
-    private interface Call {
-        Object make();
-    }
-
-    private static NumberForge forge;
-    private static int promise;
-    private static int wrong = 0;
-
+public final class PromiseTest extends Bench {
     public static void main(String[] args) {
         promise(1);
         newObject();
@@ -66,132 +44,11 @@ public final class PromiseTest {
         letters();
         promise(16);
         output();
-        System.out.println(wrong == 0 ? "promises: all answers are as due" : "promises: " + wrong + " wrong");
-        if (wrong != 0) {
-            System.exit(1);
-        }
+        end("promises");
     }
-
-    // ---- Helpers
 
     private static void promise(int number) {
-        promise = number;
-        forge = new NumberForge();
-    }
-
-    private static void due(String what, Object got, Object want) {
-        if (!got.equals(want)) {
-            wrong++;
-            System.out.println("promise " + promise + ": " + what + " is " + got + ", due is " + want);
-        }
-    }
-
-    /** What the call answers, "done" for nothing, or the name of what it throws. */
-    private static String answer(Call call) {
-        try {
-            return String.valueOf(call.make());
-        } catch (RuntimeException e) {
-            return e.getClass().getSimpleName();
-        }
-    }
-
-    private static long bytes(String s) {
-        long part = 0;
-        for (int i = 0; i < s.length(); i++) {
-            part = part << 8 | s.charAt(i);
-        }
-        return part;
-    }
-
-    private static void text(String s) {
-        forge.wipe();
-        for (int i = 0; i < s.length(); i += 8) {
-            due("type of " + s, forge.type(bytes(s.substring(i, Math.min(i + 8, s.length())))), true);
-        }
-    }
-
-    private static String read(String s, int r, int type) {
-        text(s);
-        return answer(() -> {
-            forge.read(r, type);
-            return "done";
-        });
-    }
-
-    private static String reckon(int operation, int a, int b, int to) {
-        return answer(() -> {
-            forge.reckon(operation, a, b, to);
-            return "done";
-        });
-    }
-
-    private static String one(int operation, int a, int to) {
-        return answer(() -> {
-            forge.one(operation, a, to);
-            return "done";
-        });
-    }
-
-    private static String cast(int a, int type, int to) {
-        return answer(() -> {
-            forge.cast(a, type, to);
-            return "done";
-        });
-    }
-
-    /** Type and value of a register: "0 125/1" for the DECIMAL 12.5, "9 12.5" for the DOUBLE. */
-    private static String register(int r) {
-        if (forge.kind(r) < 0) {
-            return "empty";
-        }
-        return forge.kind(r) + " " + (forge.kind(r) >= FLOAT ? "" + forge.real(r) : forge.exact(r, 0) + "/" + forge.exact(r, 1));
-    }
-
-    private static String output(int length) {
-        due("length of the output", forge.output(-1), length);
-        StringBuilder b = new StringBuilder();
-        for (int k = 0; k < length; k++) {
-            b.append((char) forge.output(k));
-        }
-        return b.toString();
-    }
-
-    private static String written(int r) {
-        String length = answer(() -> forge.write(r));
-        return length.matches("\\d+") ? output(Integer.parseInt(length)) : length;
-    }
-
-    private static String pictured(String s, int r) {
-        text(s);
-        String length = answer(() -> forge.picture(r));
-        return length.matches("\\d+") ? output(Integer.parseInt(length)) : length;
-    }
-
-    private static String lettered(int r, int style) {
-        String length = answer(() -> forge.letters(r, style));
-        return length.matches("\\d+") ? output(Integer.parseInt(length)) : length;
-    }
-
-    private static void exactly(String a, int typeOfA, String b, int typeOfB, int operation, String want) {
-        due("reading " + a, read(a, 0, typeOfA), "done");
-        due("reading " + b, read(b, 1, typeOfB), "done");
-        String got = reckon(operation, 0, 1, 2);
-        due(a + " " + operation + " " + b, got.equals("done") ? register(2) : got, want);
-    }
-
-    private static void decimals(String a, String b, int operation, String want) {
-        exactly(a, DECIMAL, b, DECIMAL, operation, want);
-    }
-
-    private static void floatings(double a, boolean singleA, double b, boolean singleB, int operation, String want) {
-        forge.put(0, a, singleA);
-        forge.put(1, b, singleB);
-        String got = reckon(operation, 0, 1, 2);
-        due(a + " " + operation + " " + b, got.equals("done") ? register(2) : got, want);
-    }
-
-    private static void doubles(double a, double b, int operation, String want) {
-        floatings(a, false, b, false, operation, want);
+        under("promise " + number);
     }
 
     // ---- The promises
@@ -202,10 +59,7 @@ public final class PromiseTest {
         }
         due("output", forge.output(-1), 0);
         due("output", forge.output(0), -1);
-        due("reading the empty text", answer(() -> {
-            forge.read(0, 0);
-            return "done";
-        }), ARGUMENT);
+        due("reading the empty text", call("read(0, 0)"), ARGUMENT);
         due("NONE", NumberForge.NONE, -1);
     }
 
@@ -217,10 +71,7 @@ public final class PromiseTest {
         due("a byte below 32", forge.type(0x3131001FL), false);
         due("the byte 127", forge.type(0x7F31L), false);
         due("a byte above 127", forge.type(0x8031313131313131L), false);
-        due("nothing was added by those", answer(() -> {
-            forge.read(0, 1);
-            return "done";
-        }), ARGUMENT);
+        due("nothing was added by those", call("read(0, 1)"), ARGUMENT);
         due("32 and 126", forge.type(0x207EL), true);
         forge.wipe();
         for (int i = 0; i < 5; i++) {
@@ -244,11 +95,6 @@ public final class PromiseTest {
         forge.wipe();
         due("the output stays", forge.output(0), (int) '5');
         due("the register stays", register(0), "1 5/0");
-    }
-
-    private static void reads(String s, int type, String want) {
-        String got = read(s, 3, type);
-        due("reading '" + s + "' as " + type, got.equals("done") ? register(3) : got, want);
     }
 
     private static void readExact() {
@@ -334,10 +180,7 @@ public final class PromiseTest {
         due("no type", read("4", 3, 10), INDEX);
         due("no type", read("x", 3, -1), INDEX);
         text("4");
-        due("no type", answer(() -> {
-            forge.read(3, 10);
-            return "done";
-        }), INDEX);
+        due("no type", call("read(3, 10)"), INDEX);
         forge.type(bytes("2"));
         forge.read(3, 1);
         due("the text stays by an exception", register(3), "1 42/0");
@@ -355,10 +198,7 @@ public final class PromiseTest {
         forge.put(2, -0.0, false);
         due("-0", register(2), "9 -0.0");
         for (int r : new int[] {-1, 8, Integer.MIN_VALUE}) {
-            due("no register", answer(() -> {
-                forge.put(r, 1, false);
-                return "done";
-            }), INDEX);
+            due("no register", calling("put", r, 1, false), INDEX);
         }
     }
 
@@ -485,23 +325,16 @@ public final class PromiseTest {
         decimals("1", "0", 4, ARITHMETIC);
         decimals("0", "0", 5, ARITHMETIC);
         due("the register stays", register(2), "9 7.0");
-        due("no register", reckon(0, 8, 1, 2), INDEX);
-        due("no register", reckon(0, 0, -1, 2), INDEX);
-        due("no register", reckon(0, 0, 1, 8), INDEX);
-        due("no operation", reckon(6, 0, 1, 2), INDEX);
-        due("no operation", reckon(-1, 0, 1, 2), INDEX);
-        due("an empty one", reckon(0, 0, 5, 2), STATE);
-        due("an empty one", reckon(0, 5, 0, 2), STATE);
-        due("no operation of an empty one", reckon(9, 5, 0, 2), INDEX);
-        due("no register for an empty one", reckon(0, 5, 0, 9), INDEX);
-        due("into itself", read("3", 0, 1) + reckon(2, 0, 0, 0) + register(0), "donedone1 9/0");
-    }
-
-    private static void ones(String s, int type, String... wants) {
-        due("reading", read(s, 0, type), "done");
-        for (int operation = 0; operation < 6; operation++) {
-            due("one(" + operation + ") of " + s, one(operation, 0, 1) + " " + register(1), "done " + wants[operation]);
-        }
+        due("no register", call("reckon(0, 8, 1, 2)"), INDEX);
+        due("no register", call("reckon(0, 0, -1, 2)"), INDEX);
+        due("no register", call("reckon(0, 0, 1, 8)"), INDEX);
+        due("no operation", call("reckon(6, 0, 1, 2)"), INDEX);
+        due("no operation", call("reckon(-1, 0, 1, 2)"), INDEX);
+        due("an empty one", call("reckon(0, 0, 5, 2)"), STATE);
+        due("an empty one", call("reckon(0, 5, 0, 2)"), STATE);
+        due("no operation of an empty one", call("reckon(9, 5, 0, 2)"), INDEX);
+        due("no register for an empty one", call("reckon(0, 5, 0, 9)"), INDEX);
+        due("into itself", read("3", 0, 1) + call("reckon(2, 0, 0, 0)") + register(0), "donedone1 9/0");
     }
 
     private static void oneExact() {
@@ -529,36 +362,24 @@ public final class PromiseTest {
             double[] wants = {-x, Math.abs(x), Math.floor(x), Math.ceil(x), Math.floor(x) + (x - Math.floor(x) >= 0.5 ? 1 : 0),
                 Math.rint(x)};
             for (int operation = 0; operation < 6; operation++) {
-                due("one(" + operation + ") of " + x, one(operation, 0, 1) + register(1), "done9 " + wants[operation]);
+                due("one(" + operation + ") of " + x, calling("one", operation, 0, 1) + register(1), "done9 " + wants[operation]);
             }
         }
         forge.put(0, 8388607.5, true);
-        due("a large float", one(4, 0, 1) + register(1), "done8 8388608.0");
+        due("a large float", call("one(4, 0, 1)") + register(1), "done8 8388608.0");
     }
 
     private static void oneRefuses() {
         forge = new NumberForge();
         read("3", 0, INT);
-        due("no register", one(0, 8, 1), INDEX);
-        due("no register", one(0, 0, -1), INDEX);
-        due("no operation", one(6, 0, 1), INDEX);
-        due("no operation", one(-1, 0, 1), INDEX);
-        due("an empty one", one(0, 1, 0), STATE);
-        due("no operation of an empty one", one(6, 1, 0), INDEX);
+        due("no register", call("one(0, 8, 1)"), INDEX);
+        due("no register", call("one(0, 0, -1)"), INDEX);
+        due("no operation", call("one(6, 0, 1)"), INDEX);
+        due("no operation", call("one(-1, 0, 1)"), INDEX);
+        due("an empty one", call("one(0, 1, 0)"), STATE);
+        due("no operation of an empty one", call("one(6, 1, 0)"), INDEX);
         due("the register stays", register(0), "2 3/0");
-        due("into itself", one(0, 0, 0) + register(0), "done1 -3/0");
-    }
-
-    private static void casts(String s, int from, int to, String want) {
-        due("reading", read(s, 0, from), "done");
-        String got = cast(0, to, 1);
-        due("cast of " + s + " from " + from + " to " + to, got.equals("done") ? register(1) : got, want);
-    }
-
-    private static void castsDouble(double x, int to, String want) {
-        forge.put(0, x, false);
-        String got = cast(0, to, 1);
-        due("cast of " + x + " to " + to, got.equals("done") ? register(1) : got, want);
+        due("into itself", call("one(0, 0, 0)") + register(0), "done1 -3/0");
     }
 
     private static void castAll() {
@@ -607,18 +428,11 @@ public final class PromiseTest {
         castsDouble(-1e15, INTEGER, LIMIT);
         castsDouble(1e15, BYTE, LIMIT);
         due("the register stays", register(1), "2 7/0");
-        due("no register", cast(8, 0, 1), INDEX);
-        due("no register", cast(0, 0, -1), INDEX);
-        due("no type", cast(0, 10, 1), INDEX);
-        due("no type of an empty one", cast(5, -1, 1), INDEX);
-        due("an empty one", cast(5, 0, 1), STATE);
-    }
-
-    private static void compares(String a, int typeOfA, String b, int typeOfB, int want) {
-        read(a, 0, typeOfA);
-        read(b, 1, typeOfB);
-        due(a + " to " + b, forge.compare(0, 1), want);
-        due(b + " to " + a, forge.compare(1, 0), -want);
+        due("no register", call("cast(8, 0, 1)"), INDEX);
+        due("no register", call("cast(0, 0, -1)"), INDEX);
+        due("no type", call("cast(0, 10, 1)"), INDEX);
+        due("no type of an empty one", call("cast(5, -1, 1)"), INDEX);
+        due("an empty one", call("cast(5, 0, 1)"), STATE);
     }
 
     private static void compare() {
@@ -637,10 +451,10 @@ public final class PromiseTest {
         compares("16777217", INTEGER, "16777216", DOUBLE, 1);
         compares("-INF", DOUBLE, "-999999999999999", INTEGER, -1);
         compares("INF", DOUBLE, "INF", FLOAT, 0);
-        due("no register", answer(() -> forge.compare(8, 0)), INDEX);
-        due("no register", answer(() -> forge.compare(5, -1)), INDEX);
-        due("an empty one", answer(() -> forge.compare(5, 0)), STATE);
-        due("an empty one", answer(() -> forge.compare(0, 5)), STATE);
+        due("no register", call("compare(8, 0)"), INDEX);
+        due("no register", call("compare(5, -1)"), INDEX);
+        due("an empty one", call("compare(5, 0)"), STATE);
+        due("an empty one", call("compare(0, 5)"), STATE);
     }
 
     private static void kind() {
@@ -662,9 +476,9 @@ public final class PromiseTest {
         due("a float", forge.real(0), (double) 0.1f);
         forge.put(0, -0.0, false);
         due("-0", forge.real(0), -0.0);
-        due("no register", answer(() -> forge.real(8)), INDEX);
-        due("no register", answer(() -> forge.real(-1)), INDEX);
-        due("an empty one", answer(() -> forge.real(1)), STATE);
+        due("no register", call("real(8)"), INDEX);
+        due("no register", call("real(-1)"), INDEX);
+        due("an empty one", call("real(1)"), STATE);
     }
 
     private static void exact() {
@@ -678,11 +492,6 @@ public final class PromiseTest {
         due("no register", forge.exact(-1, 1), 0L);
         forge.put(0, 5, false);
         due("a double", forge.exact(0, 0), 0L);
-    }
-
-    private static void writes(String s, int type, String want) {
-        read(s, 0, type);
-        due("writing " + s, written(0), want);
     }
 
     private static void write() {
@@ -718,16 +527,11 @@ public final class PromiseTest {
         forge.put(0, 1.0 / 3, true);
         due("a third as a float", written(0), "0.33333334");
         forge.put(0, 1e300, false);
-        due("too large", answer(() -> forge.write(0)), LIMIT);
-        due("the output stays", output(10), "0.33333334");
-        due("no register", answer(() -> forge.write(8)), INDEX);
-        due("no register", answer(() -> forge.write(-1)), INDEX);
-        due("an empty one", answer(() -> forge.write(1)), STATE);
-    }
-
-    private static void pictures(String number, String s, String want) {
-        due("reading", read(number, 0, DECIMAL), "done");
-        due(number + " by " + s, pictured(s, 0), want);
+        due("too large", call("write(0)"), LIMIT);
+        due("the output stays", outputText(), "0.33333334");
+        due("no register", call("write(8)"), INDEX);
+        due("no register", call("write(-1)"), INDEX);
+        due("an empty one", call("write(1)"), STATE);
     }
 
     private static void picture() {
@@ -758,7 +562,7 @@ public final class PromiseTest {
         pictures("9999999999999.99", "#,##0%", "999,999,999,999,999%");
         String zeros = "00000000000000000000000000000000000000,0";
         pictures("7", zeros, zeros.replace(",", "").substring(1).replaceAll("0", "0,") + "7");
-        due("the text stays", answer(() -> forge.picture(0)), "77");
+        due("the text stays", call("picture(0)"), "77");
         forge.put(0, 2.675, false);
         due("a double", pictured("0.00", 0), "2.68");
         forge.put(0, 0.1, true);
@@ -783,12 +587,7 @@ public final class PromiseTest {
         due("no register", pictured("0", 8), INDEX);
         due("no register", pictured("x", -1), INDEX);
         due("an empty one", pictured("x", 5), STATE);
-        due("the output stays", output(15), "999999986991104");
-    }
-
-    private static void letter(String number, int style, String want) {
-        due("reading", read(number, 0, INTEGER), "done");
-        due(number + " in style " + style, lettered(0, style), want);
+        due("the output stays", outputText(), "999999986991104");
     }
 
     private static void letters() {
@@ -821,7 +620,7 @@ public final class PromiseTest {
         due("no style for an empty one", lettered(2, -1), INDEX);
         due("no register", lettered(8, 0), INDEX);
         due("no register", lettered(-1, 0), INDEX);
-        due("the output stays", output(2), "ix");
+        due("the output stays", outputText(), "ix");
     }
 
     private static void output() {
