@@ -26,6 +26,11 @@ abstract class Bench {
     /** What the next answers belong to; they begin with a new object. */
     static void under(String what) {
         heading = what;
+        fresh();
+    }
+
+    /** The document promises 512 calls of an object, so long rows of examples take a new one for each. */
+    static void fresh() {
         forge = new NumberForge();
     }
 
@@ -131,7 +136,8 @@ abstract class Bench {
 
     static String outputText() {
         StringBuilder b = new StringBuilder();
-        for (int k = 0; k < forge.output(-1); k++) {
+        int length = forge.output(-1);
+        for (int k = 0; k < length; k++) {
             b.append((char) forge.output(k));
         }
         return b.toString();
@@ -189,14 +195,16 @@ abstract class Bench {
         return outputText();
     }
 
-    // ---- One example each
+    // ---- One example each, with an object of its own
 
     static void reads(String s, int type, String want) {
+        fresh();
         String got = read(s, 3, type);
         due("reading '" + s + "' as " + type, got.equals("done") ? register(3) : got, want);
     }
 
     static void exactly(String a, int typeOfA, String b, int typeOfB, int operation, String want) {
+        fresh();
         due("reading " + a, read(a, 0, typeOfA), "done");
         due("reading " + b, read(b, 1, typeOfB), "done");
         String got = calling("reckon", operation, 0, 1, 2);
@@ -208,6 +216,7 @@ abstract class Bench {
     }
 
     static void floatings(double a, boolean singleA, double b, boolean singleB, int operation, String want) {
+        fresh();
         forge.put(0, a, singleA);
         forge.put(1, b, singleB);
         String got = calling("reckon", operation, 0, 1, 2);
@@ -224,11 +233,13 @@ abstract class Bench {
 
     /** What each of the six operations on one makes of the number. */
     static void ones(String s, int type, String... wants) {
+        fresh();
         due("reading", read(s, 0, type), "done");
         onesOfRegister(s, wants);
     }
 
     static void onesOfDouble(double x, boolean single, double... wants) {
+        fresh();
         forge.put(0, x, single);
         String[] told = new String[wants.length];
         for (int i = 0; i < wants.length; i++) {
@@ -245,6 +256,7 @@ abstract class Bench {
     }
 
     static void casts(String s, int from, int to, String want) {
+        fresh();
         due("reading", read(s, 0, from), "done");
         String got = calling("cast", 0, to, 1);
         due("cast of " + s + " from " + from + " to " + to, got.equals("done") ? register(1) : got, want);
@@ -255,12 +267,14 @@ abstract class Bench {
     }
 
     static void castsFloating(double x, boolean single, int to, String want) {
+        fresh();
         forge.put(0, x, single);
         String got = calling("cast", 0, to, 1);
         due("cast of " + x + " to " + to, got.equals("done") ? register(1) : got, want);
     }
 
     static void compares(String a, int typeOfA, String b, int typeOfB, int want) {
+        fresh();
         due("reading " + a, read(a, 0, typeOfA), "done");
         due("reading " + b, read(b, 1, typeOfB), "done");
         due(a + " to " + b, calling("compare", 0, 1), "" + want);
@@ -268,26 +282,31 @@ abstract class Bench {
     }
 
     static void writes(String s, int type, String want) {
+        fresh();
         due("reading " + s, read(s, 0, type), "done");
         due("writing " + s + " as " + type, written(0), want);
     }
 
     static void writesDouble(double x, String want) {
+        fresh();
         forge.put(0, x, false);
         due("writing " + x, written(0), want);
     }
 
     static void writesFloat(double x, String want) {
+        fresh();
         forge.put(0, x, true);
         due("writing the float " + x, written(0), want);
     }
 
     static void pictures(String number, String s, String want) {
+        fresh();
         due("reading", read(number, 0, DECIMAL), "done");
         due(number + " by " + s, pictured(s, 0), want);
     }
 
     static void letter(String number, int style, String want) {
+        fresh();
         due("reading", read(number, 0, INTEGER), "done");
         due(number + " in style " + style, lettered(0, style), want);
     }

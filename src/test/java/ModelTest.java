@@ -7,12 +7,15 @@ import java.util.regex.Pattern;
 /**
  * Runs of calls, the same in every test run, on a NumberForge and on a second reading of the document that uses
  * what the Java library has (BigDecimal, regular expressions, %, Math.rint) where NumberForge may not.
- * After each call the answers and the whole state of both must be the same.
+ * After each call the answers and what the call wrote must be the same on both, and at the end of a run all
+ * registers.
  */
 public final class ModelTest {
+    /** With so many calls made on an object no more is begun: the last one and a look at all stay within 512. */
     private static final int CALLS = 300;
 
     private static int wrong = 0;
+    private static int calls = 0;
     private static long seed = 20261119L;
 
     private static int pick(int count) {
@@ -21,7 +24,7 @@ public final class ModelTest {
     }
 
     public static void main(String[] args) {
-        int runs = args.length > 0 ? Integer.parseInt(args[0]) : 400;
+        int runs = args.length > 0 ? Integer.parseInt(args[0]) : 6000;
         for (int run = 1; run <= runs && wrong < 20; run++) {
             runOnce(run);
         }
@@ -35,15 +38,17 @@ public final class ModelTest {
         NumberForge forge = new NumberForge();
         Model model = new Model();
         StringBuilder story = new StringBuilder();
-        for (int call = 0; call < CALLS && wrong < 20; call++) {
-            String told = callBoth(forge, model);
-            story.append("\n  ").append(told);
-            String difference = difference(forge, model);
-            if (told.startsWith("!") || difference != null) {
-                wrong++;
-                System.out.println("run " + run + ": " + difference + " after" + tail(story));
-                return;
-            }
+        calls = 0;
+        String difference = null;
+        while (calls < CALLS && difference == null) {
+            difference = differenceByCall(forge, model, story);
+        }
+        for (int r = -1; r <= 8 && difference == null; r++) {
+            difference = differenceOfRegister(r, forge, model);
+        }
+        if (difference != null || calls > 512) {
+            wrong++;
+            System.out.println("run " + run + ": " + difference + " after " + calls + " calls, the last of them" + tail(story));
         }
     }
 
@@ -53,15 +58,23 @@ public final class ModelTest {
 
     // ---- One call on both sides
 
-    private static String callBoth(NumberForge forge, Model model) {
+    /** Makes a call on both sides and tells it in the story; what differs then, or null. */
+    private static String differenceByCall(NumberForge forge, Model model, StringBuilder story) {
         int which = pick(20);
         long[] with = arguments(which);
         double v = which == 4 || which == 5 ? someDouble() : 0;
         String text = which < 4 ? someText() : which == 15 || which == 16 ? somePicture() : null;
-        String said = name(which) + java.util.Arrays.toString(with) + " " + v + " " + text;
         String got = answer(forge, null, which, with, v, text);
         String due = answer(null, model, which, with, v, text);
-        return (got.equals(due) ? "" : "! due " + due + ": ") + said + " -> " + got;
+        story.append("\n  ").append(name(which)).append(java.util.Arrays.toString(with)).append(' ').append(v).append(' ')
+            .append(text).append(" -> ").append(got);
+        if (!got.equals(due)) {
+            return "due is " + due;
+        }
+        if (which >= 15 && which <= 18) {
+            return differenceOfOutput(forge, model);
+        }
+        return which < 14 ? differenceOfRegister((int) with[which < 6 ? 0 : with.length - 1], forge, model) : null;
     }
 
     private static String name(int which) {
@@ -88,13 +101,14 @@ public final class ModelTest {
             case 17:
                 return new long[] {r, oddly(5)};
             case 19:
-                return new long[] {pick(10) == 0 ? ((long) pick(1 << 30) << 32) + pick(1 << 30) : bytes("" + pick(2000))};
+                return new long[] {pick(10) == 0 ? ((long) pick(1 << 30) << 32) + pick(1 << 30) : Bench.bytes("" + pick(2000))};
             default:
                 return new long[] {r};
         }
     }
 
     private static String answer(NumberForge f, Model m, int which, long[] w, double v, String text) {
+        calls += f != null ? 1 : 0;
         try {
             switch (which) {
                 case 0: case 1: case 2: case 3:
@@ -134,19 +148,12 @@ public final class ModelTest {
     }
 
     private static void typeAll(NumberForge f, Model m, String text) {
+        calls += f != null ? 1 + (text.length() + 7) / 8 : 0;
         if (f != null) f.wipe(); else m.text = "";
         for (int i = 0; i < text.length(); i += 8) {
-            long part = bytes(text.substring(i, Math.min(text.length(), i + 8)));
+            long part = Bench.bytes(text.substring(i, Math.min(text.length(), i + 8)));
             if (f != null) f.type(part); else m.type(part);
         }
-    }
-
-    private static long bytes(String s) {
-        long part = 0;
-        for (int i = 0; i < s.length(); i++) {
-            part = part << 8 | s.charAt(i);
-        }
-        return part;
     }
 
     // ---- What the calls are made with
@@ -238,25 +245,30 @@ public final class ModelTest {
 
     // ---- Both states
 
-    private static String difference(NumberForge f, Model m) {
-        for (int r = -1; r <= 8; r++) {
-            if (f.kind(r) != m.kind(r)) {
-                return "kind(" + r + ") is " + f.kind(r) + ", due is " + m.kind(r);
-            }
-            for (int part = -1; part <= 2; part++) {
-                if (f.exact(r, part) != m.exact(r, part)) {
-                    return "exact(" + r + ", " + part + ") is " + f.exact(r, part) + ", due is " + m.exact(r, part);
-                }
-            }
-            if (m.kind(r) >= 0 && Double.doubleToRawLongBits(f.real(r)) != Double.doubleToRawLongBits(m.real(r))) {
-                return "real(" + r + ") is " + f.real(r) + ", due is " + m.real(r);
+    private static String differenceOfRegister(int r, NumberForge f, Model m) {
+        calls += 6;
+        if (f.kind(r) != m.kind(r)) {
+            return "kind(" + r + ") is " + f.kind(r) + ", due is " + m.kind(r);
+        }
+        for (int part = -1; part <= 2; part++) {
+            if (f.exact(r, part) != m.exact(r, part)) {
+                return "exact(" + r + ", " + part + ") is " + f.exact(r, part) + ", due is " + m.exact(r, part);
             }
         }
+        if (m.kind(r) >= 0 && Double.doubleToRawLongBits(f.real(r)) != Double.doubleToRawLongBits(m.real(r))) {
+            return "real(" + r + ") is " + f.real(r) + ", due is " + m.real(r);
+        }
+        return null;
+    }
+
+    private static String differenceOfOutput(NumberForge f, Model m) {
+        int length = f.output(-1);
+        calls += length + 3;
         StringBuilder out = new StringBuilder();
-        for (int k = 0; k < f.output(-1); k++) {
+        for (int k = 0; k < length; k++) {
             out.append((char) f.output(k));
         }
-        if (!out.toString().equals(m.output) || f.output(out.length()) != -1 || f.output(-2) != -1) {
+        if (!out.toString().equals(m.output) || f.output(length) != -1 || f.output(-2) != -1) {
             return "output is '" + out + "', due is '" + m.output + "'";
         }
         return null;

@@ -174,7 +174,6 @@ public final class PromiseTest extends Bench {
         reads("1000000000000000", DECIMAL, LIMIT);
         reads("1000000000.000001", DECIMAL, LIMIT);
         reads("0.0000001", DECIMAL, LIMIT);
-        due("the register stays", register(3), "1 7/0");
         due("no register", read("4", 8, 1), INDEX);
         due("no register", read("4", -1, 1), INDEX);
         due("no type", read("4", 3, 10), INDEX);
@@ -324,7 +323,6 @@ public final class PromiseTest extends Bench {
         decimals("1", "0", 3, ARITHMETIC);
         decimals("1", "0", 4, ARITHMETIC);
         decimals("0", "0", 5, ARITHMETIC);
-        due("the register stays", register(2), "9 7.0");
         due("no register", call("reckon(0, 8, 1, 2)"), INDEX);
         due("no register", call("reckon(0, 0, -1, 2)"), INDEX);
         due("no register", call("reckon(0, 0, 1, 8)"), INDEX);
@@ -358,12 +356,9 @@ public final class PromiseTest extends Bench {
         ones("-INF", DOUBLE, "9 Infinity", "9 Infinity", "9 -Infinity", "9 -Infinity", "9 -Infinity", "9 -Infinity");
         double[] large = {4503599627370495.5, -4503599627370495.5, 4503599627370496.0, 1e300, 0.49999999999999994, -8388607.5};
         for (double x : large) {
-            forge.put(0, x, false);
             double[] wants = {-x, Math.abs(x), Math.floor(x), Math.ceil(x), Math.floor(x) + (x - Math.floor(x) >= 0.5 ? 1 : 0),
                 Math.rint(x)};
-            for (int operation = 0; operation < 6; operation++) {
-                due("one(" + operation + ") of " + x, calling("one", operation, 0, 1) + register(1), "done9 " + wants[operation]);
-            }
+            onesOfDouble(x, false, wants);
         }
         forge.put(0, 8388607.5, true);
         due("a large float", call("one(4, 0, 1)") + register(1), "done8 8388608.0");
@@ -427,7 +422,6 @@ public final class PromiseTest extends Bench {
         castsDouble(1e15, DECIMAL, LIMIT);
         castsDouble(-1e15, INTEGER, LIMIT);
         castsDouble(1e15, BYTE, LIMIT);
-        due("the register stays", register(1), "2 7/0");
         due("no register", call("cast(8, 0, 1)"), INDEX);
         due("no register", call("cast(0, 0, -1)"), INDEX);
         due("no type", call("cast(0, 10, 1)"), INDEX);

@@ -10,6 +10,7 @@ public final class ReckonBoundaryTest extends Bench {
         quotients();
         wholeParts();
         rests();
+        wrapArounds();
         intoItself();
         floatingRefusals();
         floatingAnswers();
@@ -254,6 +255,34 @@ public final class ReckonBoundaryTest extends Bench {
         decimals("999999999999999", "999.999999", 5, "0 999000999/6");
     }
 
+    private static void wrapArounds() {
+        under("6: what 64 bits would wrap around");
+        // 18446744073710 * 10^6 is 2^64 + 448384.
+        decimals("18446744073710", "0.000001", 0, LIMIT);
+        decimals("-0.000001", "18446744073710", 0, LIMIT);
+        decimals("0.000001", "18446744073710", 1, LIMIT);
+        decimals("-18446744073709", "0.000001", 1, LIMIT);
+        decimals("184467440737096", "0.00001", 0, LIMIT);
+        decimals("0.000001", "18446744073710", 2, "0 1844674407371/5");
+        decimals("4294967296", "4294967296", 2, LIMIT);
+        decimals("4294967296", "-2147483648", 2, LIMIT);
+        decimals("4294.967296", "4294.967296", 2, "0 1844674407371/5");
+        decimals("-3037.0005", "3037.0005", 2, "0 -9223372037/3");
+        decimals("99.999999", "99.999999", 2, "0 99999998/4");
+        decimals("98765432.1", "123.456789", 3, "0 80000000729/5");
+        decimals("99999999", "0.000999", 3, LIMIT);
+        decimals("18446744073710", "0.000001", 3, LIMIT);
+        decimals("18446744073710", "0.000001", 4, LIMIT);
+        decimals("12345678901234", "1.000003", 4, "1 12345641864308/0");
+        decimals("12345678901234", "1.000003", 5, "0 407076/6");
+        decimals("1.000001", "18446744073710", 4, "1 0/0");
+        decimals("1.000001", "18446744073710", 5, "0 1000001/6");
+        decimals("-1.00001", "184467440737096", 5, "0 -100001/5");
+        doubles(18446744073709551616.0, 1, 4, LIMIT);
+        doubles(-9223372036854775808.0, 1, 4, LIMIT);
+        floats(4294967296.0, 1, 4, "1 4294967296/0");
+    }
+
     // ---- Promise 6, floating
 
     /** The same with two DOUBLEs and with two FLOATs. */
@@ -475,6 +504,9 @@ public final class ReckonBoundaryTest extends Bench {
     private static void floatingOnes() {
         under("7: floating, of two as near the greater one, or the even one");
         onesOfBoth(2.0, -2.0, 2.0, 2.0, 2.0, 2.0, 2.0);
+        onesOfBoth(-2.0, 2.0, 2.0, -2.0, -2.0, -2.0, -2.0);
+        onesOfBoth(3.0, -3.0, 3.0, 3.0, 3.0, 3.0, 3.0);
+        onesOfBoth(-3.0, 3.0, 3.0, -3.0, -3.0, -3.0, -3.0);
         onesOfBoth(2.25, -2.25, 2.25, 2.0, 3.0, 2.0, 2.0);
         onesOfBoth(2.5, -2.5, 2.5, 2.0, 3.0, 3.0, 2.0);
         onesOfBoth(2.75, -2.75, 2.75, 2.0, 3.0, 3.0, 3.0);
@@ -564,6 +596,8 @@ public final class ReckonBoundaryTest extends Bench {
             castsDouble(1e15, type, LIMIT);
             castsDouble(-1e15, type, LIMIT);
             castsDouble(Double.MAX_VALUE, type, LIMIT);
+            castsDouble(9223372036854775808.0, type, LIMIT);
+            castsDouble(18446744073709551616.0, type, LIMIT);
             castsFloating(Math.nextUp((float) 1e15), true, type, LIMIT);
             castsFloating(-Math.nextUp((float) 1e15), true, type, LIMIT);
             boolean narrow = type >= INT && type <= UNSIGNED_BYTE;
@@ -683,7 +717,10 @@ public final class ReckonBoundaryTest extends Bench {
         compares("-0.1", DECIMAL, "0.1", DECIMAL, -1);
         compares("-0.000001", DECIMAL, "0", INTEGER, -1);
         compares("0.000001", DECIMAL, "0", INTEGER, 1);
-        compares("0.9", DECIMAL, "0.10", DECIMAL, 1);
+        compares("0.9", DECIMAL, "0.11", DECIMAL, 1);
+        compares("-0.9", DECIMAL, "-0.11", DECIMAL, -1);
+        compares("1.2", DECIMAL, "1.123456", DECIMAL, 1);
+        compares("1.2", DECIMAL, "1.200001", DECIMAL, -1);
         compares("1.999999", DECIMAL, "2", INT, -1);
         compares("2.000001", DECIMAL, "2", INT, 1);
         compares("-1.5", DECIMAL, "-1", INTEGER, -1);

@@ -27,6 +27,12 @@ public final class TextBoundaryTest extends Bench {
         under("1: an empty text");
         due("reading it", call("read(0, 0)"), ARGUMENT);
         due("its room", roomInText(), 40);
+        under("1: an object is used for at most 512 calls");
+        due("reading 1", read("1", 0, INTEGER) + read("1", 1, INTEGER), "donedone");
+        for (int call = 7; call <= 511; call++) {
+            due("call " + call, call("reckon(0, 0, 1, 0)"), "done");
+        }
+        due("call 512", forge.exact(0, 0), 506L);
         under("constants");
         due("NONE", NumberForge.NONE, -1);
     }
@@ -56,7 +62,7 @@ public final class TextBoundaryTest extends Bench {
         under("2: 32 .. 126");
         for (int code = 0; code < 256; code++) {
             for (int shift = 0; shift < 64; shift += 8) {
-                forge.wipe();
+                fresh();
                 boolean good = code == 0 || code >= 32 && code <= 126;
                 long others = bytes("11111111") & ~(255L << shift);
                 due("byte " + code + " at bit " + shift, forge.type(others | (long) code << shift), good);
@@ -66,7 +72,7 @@ public final class TextBoundaryTest extends Bench {
     }
 
     private static void fill(int count) {
-        forge.wipe();
+        fresh();
         for (int i = 0; i < count; i++) {
             forge.type('0');
         }
@@ -110,6 +116,7 @@ public final class TextBoundaryTest extends Bench {
         decimalForms();
         limitsOfDecimals();
         boundsOfTypes();
+        wrapArounds();
         under("4: registers 0 .. 7 and types 0 .. 9");
         for (int r = 0; r < 8; r++) {
             for (int type = 0; type < 10; type++) {
@@ -118,6 +125,15 @@ public final class TextBoundaryTest extends Bench {
         }
         under("4: the text is empty then");
         due("read", read("1", 0, DECIMAL) + roomInText(), "done40");
+        under("4: nothing of an earlier text counts");
+        due("one with all parts", read("-12.5e-20", 0, DOUBLE) + register(0), "done9 -1.25E-19");
+        due("a plain one", read("5", 0, DOUBLE) + register(0), "done9 5.0");
+        due("an infinite one", read("-INF", 0, DOUBLE) + register(0), "done9 -Infinity");
+        due("a plain one", read("5", 0, FLOAT) + register(0), "done8 5.0");
+        due("a long one", read("1000000000000001", 0, DECIMAL), LIMIT);
+        due("a plain one", read("0", 0, DECIMAL) + register(0), "done0 0/0");
+        due("one with a scale", read("-0.000001", 0, DECIMAL) + register(0), "done0 -1/6");
+        due("a plain one", read("20", 0, INTEGER) + register(0), "done1 20/0");
         under("4: by an exception it stays");
         due("refused", read("1x", 0, DECIMAL) + roomInText(), ARGUMENT + 38);
     }
@@ -258,6 +274,25 @@ public final class TextBoundaryTest extends Bench {
         reads("9999999999999999", BYTE, LIMIT);
         reads("-9999999999999999", POSITIVE, LIMIT);
         reads("9999999999999999x", BYTE, ARGUMENT);
+    }
+
+    private static void wrapArounds() {
+        under("4: what a machine's numbers would wrap around");
+        reads("257", BYTE, ARGUMENT);
+        reads("-257", UNSIGNED_BYTE, ARGUMENT);
+        reads("65537", SHORT, ARGUMENT);
+        reads("4294967297", INT, ARGUMENT);
+        reads("-4294967295", INT, ARGUMENT);
+        reads("4294967297", INTEGER, "1 4294967297/0");
+        for (int type = DECIMAL; type <= DOUBLE; type++) {
+            reads("9223372036854775809", type, LIMIT);
+            reads("18446744073709551615", type, LIMIT);
+            reads("18446744073709551617", type, LIMIT);
+            reads("-18446744073709551617", type, LIMIT);
+        }
+        reads("18446744073709.551617", DECIMAL, LIMIT);
+        reads("1e256", DOUBLE, LIMIT);
+        reads("1e-256", FLOAT, LIMIT);
     }
 
     private static void readingFloating() {

@@ -206,28 +206,31 @@ public final class WriteBoundaryTest extends Bench {
 
     private static void pictureGrammar() {
         under("14: the text is a picture");
-        read("5", 0, INTEGER);
         for (String s : new String[] {"#", "0", "##", "00", "#0", "##00", "#,#", "0,0", "#,0", "#,##0", "##,#0,00", "0.", "#.", "0.0", "0.#",
             "0.0#", "0.00##", "#.#", "#.0", "a0", "a#", "0a", "0%", "0%%", "0a%b", "a-1 +0z", "$#", "1230", "9#9", "0.a", "0.0a", "0.#%",
             "-0", " 0 ", "~0~", "0/", "e0E", "#-", "0,000.", "0.0 ", "0&1", "!0", "$1#",
             "########################################", "0000000000000000000000000000000000000000",
             "aaaaaaaaaaaaaaaaaaaaaaaaaaaaaaaaaaaaaaa0", "0aaaaaaaaaaaaaaaaaaaaaaaaaaaaaaaaaaaaaaa",
             "0.00000000000000000000000000000000000000", "#.######################################"}) {
-            String answer = pictured(s, 0);
-            due("'" + s + "' holds 5", answer.indexOf('5') >= 0, true);
+            due("'" + s + "' holds 5", ofFive(s).indexOf('5') >= 0, true);
         }
         under("14: the text is no picture");
-        read("5", 0, INTEGER);
         for (String s : new String[] {"", " ", "a", "123", "%", ".", ",", "#,", "0,", ",#", ",0", "a,0", "a,#", "0,a", "0,%", "0,.0", "#,.",
             "#,,#", "0,,0", "#,,0", "0,,", ",", ",,", "0#", "0,#", "#0#", "#,0#", ".0", ".#", "a.0", "..", "%0", "%#", "a%0", "0.#0", "0.0#0",
             "0.,", "0.,0", "0.0,0", "0.#,#", "0.0.", "0..0", "0.0.0", "0a0", "0a#", "0a,", "0a.", "0.0a0", "0.a#", "0.0a,", "0.#a.", "0%0",
             "0%#", "# #", "0 0", "0 .0", "0.0 0", "#a.#", "aaaaaaaaaaaaaaaaaaaaaaaaaaaaaaaaaaaaaaaa"}) {
-            due("'" + s + "'", pictured(s, 0), ARGUMENT);
+            due("'" + s + "'", ofFive(s), ARGUMENT);
         }
         under("14: the text stays");
         read("5", 0, INTEGER);
         due("once", pictured("a0.0b", 0), "a5.0b");
         due("again", call("picture(0)") + outputText(), "5a5.0b");
+    }
+
+    private static String ofFive(String s) {
+        fresh();
+        due("reading", read("5", 0, INTEGER), "done");
+        return pictured(s, 0);
     }
 
     private static void pictureValues() {
@@ -286,6 +289,7 @@ public final class WriteBoundaryTest extends Bench {
     }
 
     private static void picturesDouble(double x, String s, String want) {
+        fresh();
         forge.put(0, x, false);
         due(x + " by " + s, pictured(s, 0), want);
     }
@@ -392,6 +396,15 @@ public final class WriteBoundaryTest extends Bench {
         pictures("-5", "-#-", "--5-");
         pictures("5", "  #  ", "  5  ");
         pictures("5", "123#456", "1235456");
+        under("14: nothing of an earlier picture counts");
+        read("1234.5678", 0, DECIMAL);
+        due("one with all parts", pictured("a#,##0.0##%b", 0), "a123,456.78%b");
+        due("one with a whole part", pictured("0", 0), "1235");
+        due("one with a fraction", pictured("#.0", 0), "1234.6");
+        due("one with a TAIL", pictured("#.#b", 0), "1234.6b");
+        due("one with a whole part", pictured("#", 0), "1235");
+        due("one with a whole part", pictured("000000", 0), "001235");
+        due("one with a whole part", pictured("#", 0), "1235");
         under("14: the longest output");
         String zeros = "00000000000000000000000000000000000000,0";
         String written = zeros.replace(",", "").substring(1).replaceAll("0", "0,");
@@ -420,6 +433,7 @@ public final class WriteBoundaryTest extends Bench {
         letter("704", 1, "aab");
         letter("18278", 1, "zzz");
         letter("18279", 1, "aaaa");
+        letter("4294967297", 1, "mwlqkww");
         letter("146813779479510", 1, "zzzzzzzzzz");
         letter("146813779479511", 1, "aaaaaaaaaaa");
         letter("999999999999999", 1, "gbdpxgrzxjk");
@@ -456,7 +470,8 @@ public final class WriteBoundaryTest extends Bench {
             letter(number, 3, small);
             letter(number, 4, small.toUpperCase());
         }
-        for (String number : new String[] {"4000", "4001", "5000", "999999999999999"}) {
+        // In 32 bits the last two would be 1 and 3999.
+        for (String number : new String[] {"4000", "4001", "5000", "999999999999999", "4294967297", "4294971295"}) {
             letter(number, 3, number);
             letter(number, 4, number);
         }
