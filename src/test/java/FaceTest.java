@@ -7,7 +7,6 @@ import java.nio.file.Files;
 import java.nio.file.Path;
 import java.util.Arrays;
 import java.util.HashSet;
-import java.util.List;
 import java.util.Set;
 import java.util.TreeSet;
 
@@ -18,6 +17,12 @@ public final class FaceTest {
         "void reckon(int, int, int, int)", "void one(int, int, int)", "void cast(int, int, int)", "int compare(int, int)",
         "int kind(int)", "double real(int)", "long exact(int, int)", "int write(int)", "int picture(int)",
         "int letters(int, int)", "int output(int)"
+    };
+    /** What the methods of FACE declare to throw, in the order of FACE. */
+    private static final String[] THROWN = {
+        "", "", "Index Argument Unsupported", "Index", "Index State Arithmetic Unsupported", "Index State",
+        "Index State Arithmetic Unsupported Argument", "Index State", "", "Index State", "", "Index State Unsupported",
+        "Index State Argument Arithmetic Unsupported", "Index State", ""
     };
     private static final String[] FORBIDDEN = {
         "import ", "package ", "Exact(", "Double.", "Float.", "->", "::", "finally", "synchronized", "assert ", "catch ",
@@ -48,19 +53,34 @@ public final class FaceTest {
         Class<?> c = NumberForge.class;
         say(Modifier.isPublic(c.getModifiers()) && Modifier.isFinal(c.getModifiers()), "the class is public and final");
         Set<String> found = new TreeSet<>();
+        Set<String> due = new TreeSet<>();
+        for (int i = 0; i < FACE.length; i++) {
+            due.add(FACE[i] + " " + THROWN[i]);
+        }
         for (Method m : c.getDeclaredMethods()) {
             if (isSeen(m)) {
                 String parameters = Arrays.toString(m.getParameterTypes());
-                found.add(m.getReturnType() + " " + m.getName() + "(" + parameters.substring(1, parameters.length() - 1) + ")");
+                found.add(m.getReturnType() + " " + m.getName() + "(" + parameters.substring(1, parameters.length() - 1) + ") "
+                    + thrown(m));
             }
         }
-        say(found.equals(new TreeSet<>(List.of(FACE))), "the methods are " + found);
+        say(found.equals(due), "the methods are " + found);
         for (Field f : c.getDeclaredFields()) {
             say(!isSeen(f) || f.getName().equals("NONE") && f.getType() == int.class, "the field " + f);
             say(!Modifier.isStatic(f.getModifiers()) || Modifier.isFinal(f.getModifiers()), "static and not final: " + f);
         }
         Constructor<?>[] all = c.getDeclaredConstructors();
         say(all.length == 1 && all[0].getParameterCount() == 0 && Modifier.isPublic(all[0].getModifiers()), "the constructor");
+    }
+
+    /** The first words of the names of the exceptions that a method declares. */
+    private static String thrown(Method m) {
+        StringBuilder b = new StringBuilder();
+        for (Class<?> e : m.getExceptionTypes()) {
+            b.append(b.length() == 0 ? "" : " ")
+                .append(e.getSimpleName().replaceAll("^Illegal|OutOfBounds|Operation|Exception$", ""));
+        }
+        return b.toString();
     }
 
     private static boolean isSeen(Member m) {
